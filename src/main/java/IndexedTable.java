@@ -13,6 +13,8 @@ public final class IndexedTable {
     private static final int PAGE_PLACES = 8;
     private static final int PAGES = PLACES / PAGE_PLACES;
     private static final int FIELDS = 4;
+    private static final int LEAST_VALUE = 0x80000000;
+    private static final int GREATEST_VALUE = 0x7fffffff;
     private static final int TRANSACTIONS = 8;
     private static final int RECORDS = 200;
 
@@ -54,8 +56,8 @@ public final class IndexedTable {
         for (int i = 0; i < INDEXES; i++) {
             indexes[i] = new Index();
         }
-        Arrays.fill(lows, Integer.MIN_VALUE);
-        Arrays.fill(highs, Integer.MAX_VALUE);
+        Arrays.fill(lows, LEAST_VALUE);
+        Arrays.fill(highs, GREATEST_VALUE);
     }
 
     // ---- transactions and writes
@@ -758,7 +760,7 @@ public final class IndexedTable {
         private int slotOf(int pick) {
             int from = 0;
             int to = size;
-            while (from < to) {
+            for (int halvings = 0; halvings < PICK_ROOM && from < to; halvings++) {
                 int middle = (from + to) / 2;
                 if (entries.compare(order[middle], entries, pick) < 0) {
                     from = middle + 1;
@@ -1321,8 +1323,10 @@ public final class IndexedTable {
                 scanPage(rows);
             } else if (state == LOAD) {
                 loadSome();
+            } else if (state == CATCH && log.size > 0) {
+                catchUp();
             } else if (state == CATCH) {
-                catchUp(rows);
+                finish(rows);
             }
         }
 
@@ -1355,11 +1359,7 @@ public final class IndexedTable {
             }
         }
 
-        private void catchUp(Rows rows) {
-            if (log.size == 0) {
-                finish(rows);
-                return;
-            }
+        private void catchUp() {
             if (log.firstCame()) {
                 tree.add(log.entries, log.firstSlot());
             } else {

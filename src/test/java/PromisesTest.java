@@ -12,6 +12,7 @@ public final class PromisesTest {
         remove();
         records();
         undo();
+        undoClash();
         commit();
         abort();
         index();
@@ -276,6 +277,37 @@ public final class PromisesTest {
         is("7 audit", x.audit(), 0);
     }
 
+    private static void undoClash() {
+        IndexedTable x = new IndexedTable();
+        x.begin();
+        x.insert(0, 5, 0, 0, 0);
+        x.insert(0, 5, 0, 0, 0);
+        x.update(0, 1, 0, 6);
+        x.index(0, NONE, NONE, true);
+        is("7 no clash now", x.step(0, 1000), 4);
+        is("7 two places of its own", x.undo(0, 2), DUPLICATE);
+        is("7 nothing was undone", x.records(0), 3);
+        is("7 without the second one", x.undo(0, 1), 2);
+        is("7 audit", x.audit(), 0);
+
+        x = indexed(true, 1, 2);
+        x.begin();
+        x.update(0, 0, 0, 3);
+        x.update(0, 1, 0, 1);
+        x.undo(0, 0);
+        for (int k = 0; k < 199; k++) {
+            x.update(0, 0, 3, k + 1);
+        }
+        is("7 nothing of what was undone before", x.undo(0, 198), 1);
+        x.update(0, 1, 0, 4);
+        x.update(0, 1, 0, 5);
+        is("7 a full one", x.records(0), 200);
+        is("7 one of it", x.undo(0, 199), 1);
+        is("7 the value", x.field(0, 1, 0), 4);
+        is("7 all of it", x.undo(0, 0), 199);
+        is("7 audit", x.audit(), 0);
+    }
+
     private static void commit() {
         IndexedTable x = with(1, 2, 3);
         is("8 no transaction", x.commit(0), UNKNOWN);
@@ -369,6 +401,26 @@ public final class PromisesTest {
         is("11 not unique", x.info(0, 1), 0);
         is("11 built anew", x.step(0, 1000), 4);
         is("11 audit", x.audit(), 0);
+
+        x = with(5, 5);
+        x.index(0, NONE, NONE, true);
+        is("11 failed", x.step(0, 1000), 5);
+        x.drop(0);
+        x.index(0, NONE, NONE, false);
+        is("11 a new one has not failed", x.info(0, 11), 0);
+        is("11 nor its places", x.info(0, 12), NONE);
+        is("11 nor its places", x.info(0, 13), NONE);
+        x.step(0, 1000);
+        is("11 its entries are looked at", x.entry(0, 1, 0), 1);
+        x.drop(0);
+        x.begin();
+        x.remove(0, 0);
+        x.remove(0, 1);
+        x.commit(0);
+        x.index(0, NONE, NONE, false);
+        is("11 of an empty table", x.step(0, 1000), 4);
+        is("11 nothing of the former", x.info(0, 6), 0);
+        is("11 audit", x.audit(), 0);
     }
 
     private static void step() {
@@ -412,6 +464,16 @@ public final class PromisesTest {
         // In the order of entries: 0 1 2 3 4 split at 2, then 5; in the order of places the root had 3.
         is("12 they are loaded in order", x.entry(0, 2, 4), 0);
         is("12 they are loaded in order", x.entry(0, 3, 4), 1);
+
+        x = with(50, 20, 70, 10, 80, 30, 60, 40, 90, 0, 15, 25, 35, 45, 55, 65, 75, 85);
+        x.index(0, NONE, NONE, false);
+        is("12 the least sixteen come first", x.step(0, 41), 2);
+        is("12 the sixteenth", x.entry(0, 15, 1), 80);
+        int[] first = {0, 10, 15, 20, 25, 30};
+        for (int p = 0; p < first.length; p++) {
+            is("12 in order", x.entry(0, p, 1), first[p]);
+            is("12 as if they had come so", x.entry(0, p, 4), p % 3 == 2 ? 0 : 1);
+        }
     }
 
     private static void stepWithLog() {
@@ -536,6 +598,13 @@ public final class PromisesTest {
         x.update(0, 1, 0, 4);
         x.index(0, NONE, NONE, true);
         is("12 committed against committed, one writer", x.step(0, 1000), 5);
+        x = with(3, 5, 5);
+        x.begin();
+        x.remove(0, 1);
+        x.index(0, NONE, NONE, true);
+        is("12 a row that is being removed has its key", x.step(0, 1000), 5);
+        is("12 one", x.info(0, 12), 1);
+        is("12 other", x.info(0, 13), 2);
     }
 
     private static void info() {

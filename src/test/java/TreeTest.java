@@ -16,6 +16,7 @@ public final class TreeTest {
         threeLevelsTakeWithChildren();
         comesBeforeItGoes();
         emptyAgain();
+        asFullAsCanBe();
         Due.end();
     }
 
@@ -164,5 +165,28 @@ public final class TreeTest {
         Due.is("height", x.info(0, 7), 4);
         x.abort(0);
         shape("all undone", x, 1, 1, "");
+    }
+
+    /** As many entries as 512 calls can make: 320 rows, and another key for each that can still be changed. */
+    private static void asFullAsCanBe() {
+        IndexedTable x = new IndexedTable();
+        x.begin();
+        x.begin();
+        for (int place = 0; place < 320; place++) {
+            Due.is("insert", x.insert(place / 160, place, 0, 0, 0), place);
+        }
+        Due.is("commit", x.commit(0), 160);
+        Due.is("commit", x.commit(1), 160);
+        x.index(0, -1, -1, true);
+        Due.is("step", x.step(0, 1000), 4);
+        x.begin();
+        for (int place = 0; place < 180; place++) {
+            Due.is("update", x.update(0, place, 0, 1000 + place), 1);
+        }
+        Due.is("entries", x.info(0, 6), 500);
+        Due.is("the last one", x.entry(0, 499, 1), 1179);
+        Due.is("audit", x.audit(), 0);
+        Due.is("commit", x.commit(0), 180);
+        Due.is("audit", x.audit(), 0);
     }
 }
