@@ -100,10 +100,10 @@ public final class FaceTest {
         holds("no lambda, no method reference", !code.contains("->") && !code.contains("::"));
         holds("one import", Arrays.stream(code.split("\n")).filter(s -> s.startsWith("import")).toList()
             .equals(List.of("import java.util.Arrays;")));
-        methodLengths(code.split("\n"));
+        methods(code.split("\n"));
     }
 
-    private static void methodLengths(String[] lines) {
+    private static void methods(String[] lines) {
         int start = 0;
         String end = null;
         for (int k = 0; k < lines.length; k++) {
@@ -113,6 +113,9 @@ public final class FaceTest {
             } else if (lines[k].equals(end)) {
                 holds("sixty lines at most:" + lines[start], k - start < 60);
                 end = null;
+            } else if (end != null && lines[k].contains("new ")) {
+                // "All memory is the class's own, made once" (section 4): only a constructor makes anything.
+                holds("nothing is made:" + lines[start], lines[start].matches(" +(public )?[A-Z]\\w*\\(.*"));
             }
         }
         holds("each method has an end", end == null);

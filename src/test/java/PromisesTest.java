@@ -42,33 +42,6 @@ public final class PromisesTest {
         Due.is(call, got, want);
     }
 
-    /** A table whose places 0, 1 .. have these values in field 0, committed, 10 times them in field 1. */
-    private static IndexedTable with(int... keys) {
-        IndexedTable x = new IndexedTable();
-        x.begin();
-        for (int key : keys) {
-            x.insert(0, key, 10 * key, 0, 0);
-        }
-        x.commit(0);
-        return x;
-    }
-
-    /** The same with an index of field 0 that is ready. */
-    private static IndexedTable indexed(boolean unique, int... keys) {
-        IndexedTable x = with(keys);
-        x.index(0, NONE, NONE, unique);
-        is("made: step(0, 1000)", x.step(0, 1000), 4);
-        return x;
-    }
-
-    private static int[] upTo(int n) {
-        int[] keys = new int[n];
-        for (int k = 0; k < n; k++) {
-            keys[k] = k;
-        }
-        return keys;
-    }
-
     private static void newObject() {
         IndexedTable x = new IndexedTable();
         for (int what = 0; what < 4; what++) {
@@ -136,7 +109,7 @@ public final class PromisesTest {
         }
         is("3 320 places", x.insert(1, 0, 0, 0, 0), ROOM);
 
-        x = indexed(true, 1, 2);
+        x = Tables.indexed(true, 1, 2);
         x.begin();
         is("3 the key of another", x.insert(0, 2, 0, 0, 0), DUPLICATE);
         is("3 it is not done", x.count(0), 2);
@@ -150,7 +123,7 @@ public final class PromisesTest {
     }
 
     private static void update() {
-        IndexedTable x = with(1, 2);
+        IndexedTable x = Tables.with(1, 2);
         is("4 no transaction", x.update(0, 0, 9, 1), UNKNOWN);
         x.begin();
         x.begin();
@@ -179,7 +152,7 @@ public final class PromisesTest {
         is("4 no write needs no room", x.update(0, 1, 3, 198), 0);
         is("4 UNKNOWN goes before ROOM", x.update(0, 7, 3, 198), UNKNOWN);
 
-        x = indexed(true, 1, 2, 3);
+        x = Tables.indexed(true, 1, 2, 3);
         x.begin();
         x.begin();
         is("4 a key that another has", x.update(0, 0, 0, 2), DUPLICATE);
@@ -195,7 +168,7 @@ public final class PromisesTest {
     }
 
     private static void remove() {
-        IndexedTable x = with(1, 2, 3);
+        IndexedTable x = Tables.with(1, 2, 3);
         is("5 no transaction", x.remove(0, 0), UNKNOWN);
         x.begin();
         x.begin();
@@ -220,7 +193,7 @@ public final class PromisesTest {
     }
 
     private static void records() {
-        IndexedTable x = with(1);
+        IndexedTable x = Tables.with(1);
         is("6 no transaction", x.records(0), UNKNOWN);
         x.begin();
         is("6 none", x.records(0), 0);
@@ -238,7 +211,7 @@ public final class PromisesTest {
     }
 
     private static void undo() {
-        IndexedTable x = with(1);
+        IndexedTable x = Tables.with(1);
         is("7 no transaction", x.undo(0, 0), UNKNOWN);
         x.begin();
         x.update(0, 0, 0, 2);
@@ -260,7 +233,7 @@ public final class PromisesTest {
         is("7 as committed", x.field(0, 0, 0), 1);
         is("7 none are left", x.undo(0, 1), OUTSIDE);
 
-        x = indexed(true);
+        x = Tables.indexed(true);
         x.begin();
         x.begin();
         x.insert(0, 5, 0, 0, 0);
@@ -290,7 +263,7 @@ public final class PromisesTest {
         is("7 without the second one", x.undo(0, 1), 2);
         is("7 audit", x.audit(), 0);
 
-        x = indexed(true, 1, 2);
+        x = Tables.indexed(true, 1, 2);
         x.begin();
         x.update(0, 0, 0, 3);
         x.update(0, 1, 0, 1);
@@ -309,7 +282,7 @@ public final class PromisesTest {
     }
 
     private static void commit() {
-        IndexedTable x = with(1, 2, 3);
+        IndexedTable x = Tables.with(1, 2, 3);
         is("8 no transaction", x.commit(0), UNKNOWN);
         x.index(0, NONE, NONE, false);
         x.step(0, 1000);
@@ -341,7 +314,7 @@ public final class PromisesTest {
     }
 
     private static void abort() {
-        IndexedTable x = indexed(true, 1, 2, 3);
+        IndexedTable x = Tables.indexed(true, 1, 2, 3);
         is("9 no transaction", x.abort(0), UNKNOWN);
         x.begin();
         x.update(0, 0, 0, 7);
@@ -387,7 +360,7 @@ public final class PromisesTest {
     }
 
     private static void drop() {
-        IndexedTable x = indexed(true, upTo(30));
+        IndexedTable x = Tables.indexed(true, Tables.upTo(30));
         is("11 unknown", x.drop(1), UNKNOWN);
         is("11 below", x.drop(-1), UNKNOWN);
         is("11 above", x.drop(6), UNKNOWN);
@@ -402,7 +375,7 @@ public final class PromisesTest {
         is("11 built anew", x.step(0, 1000), 4);
         is("11 audit", x.audit(), 0);
 
-        x = with(5, 5);
+        x = Tables.with(5, 5);
         x.index(0, NONE, NONE, true);
         is("11 failed", x.step(0, 1000), 5);
         x.drop(0);
@@ -440,7 +413,7 @@ public final class PromisesTest {
         is("12 it stays", x.step(0, 1000), 4);
         is("12 OUTSIDE all the same", x.step(0, 1001), OUTSIDE);
 
-        x = with(upTo(33));
+        x = Tables.with(Tables.upTo(33));
         x.index(0, NONE, NONE, false);
         is("12 scanned", x.step(0, 40), 2);
         is("12 nothing loaded", x.info(0, 6), 0);
@@ -452,20 +425,20 @@ public final class PromisesTest {
         is("12 all", x.info(0, 6), 33);
         is("12 ready", x.step(0, 1), 4);
 
-        x = with(upTo(16));
+        x = Tables.with(Tables.upTo(16));
         x.index(0, NONE, NONE, false);
         x.step(0, 40);
         is("12 just sixteen are not fewer", x.step(0, 1), 2);
         is("12 then none come", x.step(0, 1), 3);
 
-        x = with(5, 4, 3, 2, 1, 0);
+        x = Tables.with(5, 4, 3, 2, 1, 0);
         x.index(0, NONE, NONE, false);
         x.step(0, 41);
         // In the order of entries: 0 1 2 3 4 split at 2, then 5; in the order of places the root had 3.
         is("12 they are loaded in order", x.entry(0, 2, 4), 0);
         is("12 they are loaded in order", x.entry(0, 3, 4), 1);
 
-        x = with(50, 20, 70, 10, 80, 30, 60, 40, 90, 0, 15, 25, 35, 45, 55, 65, 75, 85);
+        x = Tables.with(50, 20, 70, 10, 80, 30, 60, 40, 90, 0, 15, 25, 35, 45, 55, 65, 75, 85);
         x.index(0, NONE, NONE, false);
         is("12 the least sixteen come first", x.step(0, 41), 2);
         is("12 the sixteenth", x.entry(0, 15, 1), 80);
@@ -477,7 +450,7 @@ public final class PromisesTest {
     }
 
     private static void stepWithLog() {
-        IndexedTable x = with(upTo(10));
+        IndexedTable x = Tables.with(Tables.upTo(10));
         x.index(0, NONE, NONE, false);
         x.begin();
         x.update(0, 9, 0, 90);
@@ -516,7 +489,7 @@ public final class PromisesTest {
 
     /** Seven or eight rows, the index at a state, and updates till the log has 299 or 300. */
     private static IndexedTable nearOverflow(int rows, int steps) {
-        IndexedTable x = with(upTo(rows));
+        IndexedTable x = Tables.with(Tables.upTo(rows));
         x.index(0, NONE, NONE, false);
         x.step(0, steps);
         x.begin();
@@ -556,7 +529,7 @@ public final class PromisesTest {
     }
 
     private static void stepClash() {
-        IndexedTable x = with(4, 5, 6, 5, 4, 5);
+        IndexedTable x = Tables.with(4, 5, 6, 5, 4, 5);
         x.index(0, NONE, NONE, true);
         is("12 FAILED", x.step(0, 1000), 5);
         is("12 for 1", x.info(0, 11), 1);
@@ -566,7 +539,7 @@ public final class PromisesTest {
         x.index(0, 1, NONE, false);
         is("12 not unique: READY", x.step(1, 1000), 4);
 
-        x = with(1, 2);
+        x = Tables.with(1, 2);
         x.begin();
         x.begin();
         x.update(0, 0, 0, 3);
@@ -592,13 +565,13 @@ public final class PromisesTest {
         is("12 committed against current", x.step(0, 1000), 5);
         is("12 one", x.info(0, 12), 0);
         is("12 other", x.info(0, 13), 1);
-        x = with(1, 1);
+        x = Tables.with(1, 1);
         x.begin();
         x.update(0, 0, 0, 3);
         x.update(0, 1, 0, 4);
         x.index(0, NONE, NONE, true);
         is("12 committed against committed, one writer", x.step(0, 1000), 5);
-        x = with(3, 5, 5);
+        x = Tables.with(3, 5, 5);
         x.begin();
         x.remove(0, 1);
         x.index(0, NONE, NONE, true);
@@ -608,7 +581,7 @@ public final class PromisesTest {
     }
 
     private static void info() {
-        IndexedTable x = with(1, 2, 2);
+        IndexedTable x = Tables.with(1, 2, 2);
         is("13 unknown", x.info(0, 0), UNKNOWN);
         is("13 below", x.info(-1, 0), UNKNOWN);
         is("13 above", x.info(6, 99), UNKNOWN);
@@ -671,7 +644,7 @@ public final class PromisesTest {
     }
 
     private static void where() {
-        IndexedTable x = with(1, 2, 3);
+        IndexedTable x = Tables.with(1, 2, 3);
         is("15 below", x.where(-1, 0, 0), OUTSIDE);
         is("15 above", x.where(4, 0, 0), OUTSIDE);
         is("15 nothing changed", x.ask(NONE, 0), 3);
@@ -689,7 +662,7 @@ public final class PromisesTest {
     }
 
     private static void ask() {
-        IndexedTable x = indexed(false, 3, 1, 2, 1);
+        IndexedTable x = Tables.indexed(false, 3, 1, 2, 1);
         is("16 no transaction", x.ask(0, 0), UNKNOWN);
         is("16 t goes first", x.ask(0, 7), UNKNOWN);
         is("16 t below", x.ask(-2, 0), UNKNOWN);
@@ -720,7 +693,7 @@ public final class PromisesTest {
     }
 
     private static void askOrder() {
-        IndexedTable x = indexed(false, 3, 1, 2, 1);
+        IndexedTable x = Tables.indexed(false, 3, 1, 2, 1);
         x.ask(NONE, 0);
         for (int k = 0; k < 4; k++) {
             is("16 in order of places", x.answer(k), k);
@@ -744,7 +717,7 @@ public final class PromisesTest {
     }
 
     private static void answer() {
-        IndexedTable x = with(1, 2, 3);
+        IndexedTable x = Tables.with(1, 2, 3);
         is("17 without", x.answer(0), NONE);
         x.where(0, 2, 3);
         x.ask(NONE, 0);
@@ -763,7 +736,7 @@ public final class PromisesTest {
     }
 
     private static void asked() {
-        IndexedTable x = indexed(false, 3, 1, 2, 1);
+        IndexedTable x = Tables.indexed(false, 3, 1, 2, 1);
         is("18 without", x.asked(0), NONE);
         is("18 without", x.asked(1), 0);
         is("18 below", x.asked(-1), OUTSIDE);
@@ -786,7 +759,7 @@ public final class PromisesTest {
     }
 
     private static void cost() {
-        IndexedTable x = indexed(false, upTo(17));
+        IndexedTable x = Tables.indexed(false, Tables.upTo(17));
         is("19 three pages", x.cost(0), 24);
         is("19 all entries", x.cost(1), 3 + 3 * 17);
         x.where(0, 3, 5);
@@ -824,7 +797,7 @@ public final class PromisesTest {
         IndexedTable x = new IndexedTable();
         is("16 an empty table", x.ask(NONE, NONE), 0);
         is("16 the scan", x.asked(0), 0);
-        x = indexed(false, upTo(8));
+        x = Tables.indexed(false, Tables.upTo(8));
         is("19 the scan", x.cost(0), 8);
         x.where(0, 1, 2);
         is("19 as dear", x.cost(1), 8);
@@ -847,7 +820,7 @@ public final class PromisesTest {
     }
 
     private static void sees() {
-        IndexedTable x = with(1, 2);
+        IndexedTable x = Tables.with(1, 2);
         x.begin();
         x.begin();
         x.remove(0, 0);
@@ -868,7 +841,7 @@ public final class PromisesTest {
     }
 
     private static void field() {
-        IndexedTable x = with(1, 2);
+        IndexedTable x = Tables.with(1, 2);
         x.begin();
         x.begin();
         x.update(0, 0, 0, UNKNOWN);
@@ -889,7 +862,7 @@ public final class PromisesTest {
     }
 
     private static void writer() {
-        IndexedTable x = with(1, 2);
+        IndexedTable x = Tables.with(1, 2);
         x.begin();
         x.begin();
         x.update(1, 0, 0, 5);
@@ -907,7 +880,7 @@ public final class PromisesTest {
     }
 
     private static void count() {
-        IndexedTable x = with(1, 2, 2);
+        IndexedTable x = Tables.with(1, 2, 2);
         x.begin();
         x.begin();
         x.remove(0, 0);
@@ -932,7 +905,7 @@ public final class PromisesTest {
     }
 
     private static void audit() {
-        IndexedTable x = indexed(true, upTo(60));
+        IndexedTable x = Tables.indexed(true, Tables.upTo(60));
         x.index(1, NONE, NONE, false);
         x.step(1, 1000);
         is("24 built", x.audit(), 0);
