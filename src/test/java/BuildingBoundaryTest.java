@@ -201,16 +201,13 @@ public final class BuildingBoundaryTest {
 
     private static void loadOrder() {
         Due.sentence("3 BUILDING", "(in the order of entries)");
-        int[] down = new int[17];
-        for (int k = 0; k < 17; k++) {
-            down[k] = k == 16 ? MIN : 100 - k;
-        }
-        IndexedTable x = Tables.building(false, 41, down);
-        is("the least comes first, though its place is the last", x.entry(0, 0, 1), MIN);
-        is("the sixteenth", x.entry(0, 15, 1), 99);
+        IndexedTable x = Tables.building(false, 41, 50, 20, 90, 10, 80, 30, MAX, 40, 60, 0, 15, 25, 35, 45, 55, 65, MIN);
+        is("the least comes first, though its place is the last", x.entry(0, 0, 0), 16);
+        is("the sixteenth", x.entry(0, 15, 1), 90);
+        is("the greatest has not come", x.info(0, 6), 16);
         x.step(0, 1);
-        Due.same("the shape of coming in order", Tables.picture(x), MIN + "/2 85/2 86/1 87/2 88/2 89/1 90/2 91/2 92/0 93/2 94/2 95/1 "
-            + "96/2 97/2 98/1 99/2 100/2");
+        Due.same("the shape of coming in order", Tables.picture(x), MIN + "/2 0/2 10/1 15/2 20/2 25/1 30/2 35/2 40/0 45/2 50/2 55/1 "
+            + "60/2 65/2 80/1 90/2 " + MAX + "/2");
     }
 
     private static void catchFirst() {

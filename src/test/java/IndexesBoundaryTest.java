@@ -177,6 +177,13 @@ public final class IndexesBoundaryTest {
         is("two places", x.commit(0), 2);
         Due.same("two entries", Tables.entries(x, 0), "1@1 2@0");
         is("audit", x.audit(), 0);
+        x = Tables.building(true, 41, 1, 2);
+        x.begin();
+        x.update(0, 0, 0, 3);
+        x.step(0, 1000);
+        is("what was given up before it was READY", x.insert(0, 1, 0, 0, 0), 2);
+        is("committed against current, of two writers", x.begin(), 1);
+        is("is a clash", x.update(1, 1, 0, 1), DUPLICATE);
         x = Tables.building(true, 41, 1, 1);
         x.begin();
         x.update(0, 0, 0, 3);
@@ -291,15 +298,28 @@ public final class IndexesBoundaryTest {
             IndexedTable x = Tables.building(true, steps, 1, 1);
             is("drop", x.drop(0), 1);
             x.begin();
-            x.update(0, 0, 0, 5);
-            is("the next one", x.index(0, NONE, NONE, false), 0);
+            x.update(0, 0, 1, 5);
+            is("the next one", x.index(1, NONE, NONE, false), 0);
             is("has no log", x.info(0, 9), 0);
             is("has not failed", x.info(0, 11), 0);
             is("has no clash", x.info(0, 12), NONE);
+            is("has no clash", x.info(0, 13), NONE);
             is("is built from its beginning", x.step(0, 40), 2);
             is("to its end", x.step(0, 1000), 4);
-            Due.same("with all entries", Tables.entries(x, 0), "1@0 1@1 5@0");
+            Due.same("with all entries, and no others", Tables.entries(x, 0), "5@0 10@0 10@1");
+            is("audit", x.audit(), 0);
         }
+        IndexedTable x = Tables.indexed(false, 1, 2);
+        Due.same("entries", Tables.entries(x, 0), "1@0 2@1");
+        x.drop(0);
+        x.begin();
+        x.remove(0, 0);
+        x.remove(0, 1);
+        x.commit(0);
+        x.index(0, NONE, NONE, false);
+        is("of an empty table", x.step(0, 1000), 4);
+        Due.same("nothing of the one before", Tables.entries(x, 0), "");
+        is("audit", x.audit(), 0);
     }
 
     // ---- promise 14
