@@ -257,17 +257,18 @@ public final class IndexedTable {
         return clashesIn(trial, place);
     }
 
-    /** Only the places that it writes can change by undoing, so a new clash has one of them. */
+    /** Undoing changes only the places of its records, so a clash that was not there has one of them. */
     private boolean undoWouldClash(int t, int n) {
         if (!hasGuard()) {
             return false;
         }
+        Transaction transaction = transactions[t];
         trial.copyFrom(rows);
-        for (int record = transactions[t].size - 1; record >= n; record--) {
-            transactions[t].putBack(trial, record);
+        for (int record = transaction.size - 1; record >= n; record--) {
+            transaction.putBack(trial, record);
         }
-        for (int place = 0; place < PLACES; place++) {
-            if (rows.writers[place] == t && clashesIn(trial, place)) {
+        for (int record = n; record < transaction.size; record++) {
+            if (clashesIn(trial, transaction.places[record])) {
                 return true;
             }
         }
@@ -651,6 +652,10 @@ public final class IndexedTable {
             return writers[place] == NONE && !current.has(place);
         }
 
+        boolean hasNoImage(int place) {
+            return !current.has(place) && !committed.has(place);
+        }
+
         int placesInUse() {
             int inUse = 0;
             for (int place = 0; place < PLACES; place++) {
@@ -906,6 +911,16 @@ public final class IndexedTable {
         int depthAt(int p) {
             walkAll();
             return walkDepths[p];
+        }
+
+        /** Whether the p-th and the q-th entry have one key; both are below size(). */
+        boolean haveOneKey(int p, int q) {
+            for (int f = 0; f < KEY_FIELDS; f++) {
+                if (wordAt(p, f) != wordAt(q, f)) {
+                    return false;
+                }
+            }
+            return true;
         }
 
         boolean holds(Entries from, int at) {
@@ -1381,22 +1396,31 @@ public final class IndexedTable {
 
         // ---- clashes
 
+        /**
+         * The least place that has a clash; NONE. Only for a tree with all entries of all places: those with one
+         * key stand side by side there, the lesser place first.
+         */
         private int leastWithClash(Rows rows) {
-            for (int place = 0; place < PLACES; place++) {
-                if (leastClashWith(rows, place) != NONE) {
-                    return place;
+            int least = NONE;
+            for (int p = 1; p < tree.size(); p++) {
+                int place = tree.wordAt(p, Entries.PLACE);
+                for (int q = p - 1; q >= 0 && tree.haveOneKey(q, p); q--) {
+                    int before = tree.wordAt(q, Entries.PLACE);
+                    if ((least == NONE || before < least) && isClash(rows, before, place)) {
+                        least = before;
+                    }
                 }
             }
-            return NONE;
+            return least;
         }
 
         /** The least place that clashes with this one; NONE. */
         int leastClashWith(Rows rows, int place) {
-            if (!rows.current.has(place) && !rows.committed.has(place)) {
+            if (rows.hasNoImage(place)) {
                 return NONE;
             }
             for (int other = 0; other < PLACES; other++) {
-                if (other != place && isClash(rows, place, other)) {
+                if (other != place && !rows.hasNoImage(other) && isClash(rows, place, other)) {
                     return other;
                 }
             }
@@ -1404,16 +1428,22 @@ public final class IndexedTable {
         }
 
         private boolean isClash(Rows rows, int place, int other) {
-            if (haveOneKey(rows.current, place, rows.current, other)
-                    || haveOneKey(rows.committed, place, rows.committed, other)) {
+            if (haveOneKey(rows.current, place, rows.current, other)) {
+                return true;
+            }
+            int writer = rows.writers[place];
+            int otherWriter = rows.writers[other];
+            // Without writers the committed images are the current ones.
+            if (writer == NONE && otherWriter == NONE) {
+                return false;
+            }
+            if (haveOneKey(rows.committed, place, rows.committed, other)) {
                 return true;
             }
             // One writer ends both places at once: what one of them gives up the other may take.
-            if (rows.writers[place] != NONE && rows.writers[place] == rows.writers[other]) {
-                return false;
-            }
-            return haveOneKey(rows.current, place, rows.committed, other)
-                    || haveOneKey(rows.committed, place, rows.current, other);
+            return writer != otherWriter
+                    && (haveOneKey(rows.current, place, rows.committed, other)
+                    || haveOneKey(rows.committed, place, rows.current, other));
         }
 
         // ---- questions

@@ -26,6 +26,8 @@ public final class BuildingBoundaryTest {
         emptyLog();
         clashAtTheEnd();
         clashThatIsGone();
+        clashBesideOthers();
+        clashOfWholeKeys();
         placesAreTold();
         overflowInAllThree();
         overflowAtOnce();
@@ -307,10 +309,59 @@ public final class BuildingBoundaryTest {
         is("under way is not gone", x.step(0, 2), FAILED);
     }
 
+    private static void clashBesideOthers() {
+        Due.sentence("3 BUILDING", "there is a CLASH for its key");
+        // Place 1 has the key too, but only under way, and with the writer of both others.
+        IndexedTable x = Tables.with(5, 6, 7, 5);
+        x.begin();
+        x.update(0, 0, 0, 8);
+        x.update(0, 1, 0, 5);
+        x.update(0, 3, 0, 9);
+        x.index(0, NONE, NONE, true);
+        is("what was committed", x.step(0, 1000), FAILED);
+        is("the least one", x.info(0, 12), 0);
+        is("the other one", x.info(0, 13), 3);
+        // Place 1 had the key: what the others have under way counts against it no more than against what it has.
+        x = Tables.with(6, 5, 7, 8);
+        x.begin();
+        x.update(0, 0, 0, 5);
+        x.update(0, 1, 0, 9);
+        x.update(0, 3, 0, 5);
+        x.index(0, NONE, NONE, true);
+        is("what is under way", x.step(0, 1000), FAILED);
+        is("the least one", x.info(0, 12), 0);
+        is("the other one", x.info(0, 13), 3);
+        is("one of them as it was", x.undo(0, 2), 1);
+        x.drop(0);
+        x.index(0, NONE, NONE, true);
+        is("no clash is left", x.step(0, 1000), READY);
+        Due.same("all of its entries", Tables.entries(x, 0), "5@0 5@1 6@0 7@2 8@3 9@1");
+    }
+
+    private static void clashOfWholeKeys() {
+        Due.sentence("2 INDEXES", "one to three different fields in order, which make a KEY of an image");
+        for (int f = 0; f < 3; f++) {
+            IndexedTable x = new IndexedTable();
+            x.begin();
+            x.insert(0, 1, 2, 3, 0);
+            x.insert(0, f == 0 ? 9 : 1, f == 1 ? 9 : 2, f == 2 ? 9 : 3, 0);
+            x.index(0, 1, 2, true);
+            is("unlike in its field " + f, x.step(0, 1000), READY);
+            is("alike in the others, and now in it", x.update(0, 1, f, f + 1), DUPLICATE);
+            is("unlike it stays", x.field(0, 1, f), 9);
+            is("the fourth one is none of its key", x.insert(0, 1, 2, 3, 9), DUPLICATE);
+            is("no clash", x.audit(), 0);
+            x.drop(0);
+            x.update(0, 1, f, f + 1);
+            x.index(0, 1, 2, true);
+            is("alike in all three", x.step(0, 1000), FAILED);
+        }
+    }
+
     private static void placesAreTold() {
         Due.sentence("3 BUILDING", "and the two places are told (the least one that has a clash, the least other one).");
-        int[][] keys = {{1, 1}, {4, 5, 6, 5, 4, 5}, {9, 1, 2, 3, 2, 2}, {1, 2, 3, 3, 2}};
-        int[][] due = {{0, 1}, {0, 4}, {2, 4}, {1, 4}};
+        int[][] keys = {{1, 1}, {4, 5, 6, 5, 4, 5}, {9, 1, 2, 3, 2, 2}, {1, 2, 3, 3, 2}, {7, 8, 1, 1, 8, 7}};
+        int[][] due = {{0, 1}, {0, 4}, {2, 4}, {1, 4}, {0, 5}};
         for (int k = 0; k < keys.length; k++) {
             IndexedTable x = Tables.building(true, 0, keys[k]);
             is("FAILED", x.step(0, 1000), FAILED);

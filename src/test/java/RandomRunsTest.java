@@ -162,8 +162,20 @@ public final class RandomRunsTest {
             makeIndex(random.nextBoolean());
         } else if (draw < 4) {
             due("drop(" + i + ")", table.drop(i), model.drop(i));
+        } else if (draw < 7) {
+            buildAnew(i);
         } else {
             step(i, random.nextInt(30) == 0 ? pick(-1, 0, 1000, 1001) : 1 + random.nextInt(longestStep));
+        }
+    }
+
+    /** A unique index over all that is there now: rows under way that clash, or do not, come up so. */
+    private void buildAnew(int i) {
+        due("drop(" + i + ")", table.drop(i), model.drop(i));
+        makeIndex(true);
+        step(i, 1000);
+        for (int what = 11; what <= 13; what++) {
+            due("info(" + i + ", " + what + ")", table.info(i, what), model.info(i, what));
         }
     }
 
