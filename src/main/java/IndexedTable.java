@@ -915,8 +915,9 @@ public final class IndexedTable {
 
         /** Whether the p-th and the q-th entry have one key; both are below size(). */
         boolean haveOneKey(int p, int q) {
+            walkAll();
             for (int f = 0; f < KEY_FIELDS; f++) {
-                if (wordAt(p, f) != wordAt(q, f)) {
+                if (entries.word(walk[p], f) != entries.word(walk[q], f)) {
                     return false;
                 }
             }
